@@ -253,6 +253,12 @@ public final class PromisesTest {
         due("4: read at 1", u.read(1, 5, 1), 10);
         due("4: read at 0", u.read(1, 5, 0), 0);
         due("4: rollback does not make reads too old", u.oldest(5), 0);
+        u.change(0, 5, 20);
+        u.change(0, 7, 21);
+        due("4: rollback by a session that has committed before", u.rollback(0), OK);
+        due("4: its committed change is remembered still", u.remembered(), 1);
+        due("4: raw(5) as committed", u.raw(5), 10);
+        due("4: read at 0 as before the commit", u.read(0, 5, 0), 0);
     }
 
     private static void rollbackKeepsOthers() {
@@ -548,6 +554,9 @@ public final class PromisesTest {
         changeMany(u, 1, 6, 1);
         due("13: a row too old at 0 is left out", u.changedSince(0), 48);
         due("13: but not at 1", u.changedSince(1), 40);
+        u.change(2, 4, 0);
+        u.commit(2);
+        due("13: a value like TOO_OLD at the earlier moment", u.changedSince(2), 16);
     }
 
     private static void ownReads() {
