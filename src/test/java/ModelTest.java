@@ -120,7 +120,7 @@ public final class ModelTest {
 
         int locks(int x) {
             int rows = 0;
-            for (int r = 0; r < 8 && x >= 0; r++) {
+            for (int r = 0; r < 8 && x >= 0 && x <= 3; r++) {
                 rows += lockedBy[r] == x ? 1 << r : 0;
             }
             return rows;
@@ -172,12 +172,29 @@ public final class ModelTest {
         return (int) ((seed >>> 33) % bound);
     }
 
+    /** Mostly a number from 0 to below bound; otherwise one just outside, far outside, or right but for its high bits. */
     private static int nextOrWrong(int bound) {
-        return next(40) == 0 ? (next(2) == 0 ? -1 - next(3) : bound + next(3)) : next(bound);
+        int right = next(bound);
+        if (next(40) != 0) {
+            return right;
+        }
+        return switch (next(6)) {
+            case 0 -> -1 - next(3);
+            case 1 -> bound + next(3);
+            case 2 -> Integer.MIN_VALUE + right;
+            case 3 -> Integer.MAX_VALUE - right;
+            case 4 -> right + (1 << (9 + next(22)));
+            default -> right - (1 << (9 + next(22)));
+        };
     }
 
+    /** Few values, so that rows often get one back that they had, and some of all sizes. */
     private static int nextValue() {
-        return next(30) == 0 ? UndoReader.TOO_OLD : next(4) - 1;
+        return switch (next(20)) {
+            case 0 -> UndoReader.TOO_OLD;
+            case 1 -> next(1 << 30) * 4 + next(4);
+            default -> next(4) - 1;
+        };
     }
 
     /** Runs differ in how often they end transactions and in how many rows and sessions they use. */
